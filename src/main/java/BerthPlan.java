@@ -419,14 +419,14 @@ public final class BerthPlan {
     }
 
     /**
-     * The search for the plan. In a plan of least lateness no ship could come sooner at its place,
-     * as every weight is above 0. So, fixed ships first and the others in the order in which they
-     * begin, each begins at the first hour that those before it leave open: only places and orders
-     * have to be tried, not hours.
+     * The search for the plan. In a plan of least lateness no ship that is not fixed could come sooner
+     * at its place, as every weight is above 0. So, the ships taken in the order in which they begin,
+     * each begins at the first hour that those before it leave open at its place (those behind it
+     * that share a place begin when it has left): orders and places have to be tried, hours have not.
      */
     private static final class Search {
         /** By level, ship and place: bits of the hours open to the ship once so many others lie. */
-        final int[] begins = new int[(MOST_SHIPS + 1) * MOST_SHIPS * MOST_PLACES];
+        final int[] begins = new int[MOST_SHIPS * MOST_SHIPS * MOST_PLACES];
         final int[] triedPlaces = new int[MOST_SHIPS];
         final int[] triedHours = new int[MOST_SHIPS];
         final int[] bestPlaces = new int[MOST_SHIPS];
@@ -440,17 +440,8 @@ public final class BerthPlan {
         boolean finds(Quay quay, Ship[] told, int toldCount) {
             openAll(quay, told, toldCount);
             best = NO_PLAN;
-            int left = everyShip();
-            int lateness = 0;
-            for (int i = 0; i < shipCount; i++) {
-                if (ships[i].isFixed) {
-                    lay(left, i, ships[i].fixedPlace, ships[i].fixedHour);
-                    left &= ~(1 << i);
-                    lateness += ships[i].latenessIf(ships[i].fixedHour);
-                }
-            }
-            if (lateness + leastOf(left) < best) {
-                berthRest(left, lateness, NONE);
+            if (leastOf(everyShip()) < NO_BERTH) {
+                berthRest(everyShip(), 0, NONE);
             }
             return best < NO_PLAN;
         }

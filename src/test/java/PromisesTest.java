@@ -314,6 +314,7 @@ public final class PromisesTest {
         dueBerth("lesser place for the first", y, 0, 0, 0);
         dueBerth("lesser place for the first", y, 1, 1, 0);
         hourAheadOfPlace();
+        numberAheadOfArrival();
     }
 
     /** Both plans are as late; the lesser hour of ship 0 counts, not its place, nor the order of begin. */
@@ -327,6 +328,26 @@ public final class PromisesTest {
         dueBerth("hour ahead of place", x, 0, 0, 0);
         dueBerth("hour ahead of place", x, 1, 1, 0);
         dueBerth("hour ahead of place", x, 2, 0, 4);
+    }
+
+    /** Ships are compared by number, whichever of them begins first. */
+    private static void numberAheadOfArrival() {
+        BerthPlan x = new BerthPlan(2);
+        x.ship(1, 0, 4, 1, 1);
+        x.ship(1, 0, 4, 0, 1);
+        x.solve();
+        dueBerth("lesser place for the lesser number", x, 0, 0, 1);
+        dueBerth("lesser place for the lesser number", x, 1, 1, 0);
+        // Ship 0 between the two others, in either order: 2 * 1 + 1 * 4 or 2 * 3.
+        BerthPlan y = new BerthPlan(1);
+        y.ship(1, 0, 1, 2, 2);
+        y.ship(1, 0, 3, 0, 2);
+        y.ship(1, 0, 2, 0, 1);
+        y.solve();
+        due("lateness", y.lateness(), 6);
+        dueBerth("lesser hour for the lesser number", y, 0, 0, 2);
+        dueBerth("lesser hour for the lesser number", y, 1, 0, 3);
+        dueBerth("lesser hour for the lesser number", y, 2, 0, 0);
     }
 
     private static void solveByGearDepthAndTide() {
