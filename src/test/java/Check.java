@@ -5,8 +5,22 @@ final class Check {
         long answer();
     }
 
+    /** Numbers that no call takes as a ship, a place, an hour, a kind or a what. */
+    static final int[] WILD = {Integer.MIN_VALUE, Integer.MIN_VALUE + 1, -1000, 1000, Integer.MAX_VALUE - 1,
+        Integer.MAX_VALUE};
+
+    static final Class<IllegalArgumentException> ARGUMENT = IllegalArgumentException.class;
+    static final Class<IllegalStateException> STATE = IllegalStateException.class;
+    static final Class<IndexOutOfBoundsException> INDEX = IndexOutOfBoundsException.class;
+    static final Class<ArithmeticException> ARITHMETIC = ArithmeticException.class;
+
+    private final String title;
     private int wrong;
     private int seen;
+
+    Check(String title) {
+        this.title = title;
+    }
 
     void due(String call, long got, long want) {
         dueText(call, Long.toString(got), Long.toString(want));
@@ -21,11 +35,17 @@ final class Check {
         dueText(call, outcome(made), "throws." + want.getSimpleName());
     }
 
+    /** The ship must lie at this place from this hour on by the plan. */
+    void dueBerth(String run, BerthPlan x, int ship, int place, int hour) {
+        dueText(run + ": berth of ship " + ship,
+                outcome(() -> x.at(ship, 0)) + " at " + outcome(() -> x.at(ship, 1)), place + " at " + hour);
+    }
+
     void dueText(String call, String got, String want) {
         seen++;
         if (!got.equals(want)) {
             wrong++;
-            System.out.println(call + " answered " + got + ", due is " + want);
+            System.out.println(title + ": " + call + " answered " + got + ", due is " + want);
         }
     }
 

@@ -4,7 +4,7 @@ import java.util.Random;
 public final class CrowdedQuayTest {
     private static final int RUNS = 6000;
 
-    private final Check check = new Check();
+    private final Check check = new Check("Crowded quay");
     private final Random random = new Random(4711);
     private BerthPlan x;
     private NaiveModel y;

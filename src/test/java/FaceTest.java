@@ -42,7 +42,7 @@ public final class FaceTest {
     private static final String[] WORDS = {"\\bimport\\b", "\\bpackage\\b", "\\bcatch\\b", "\\bfinally\\b",
         "\\bsynchronized\\b", "\\bassert\\b", "->", "::", "Exact\\b", "\\bstatic\\s*\\{", "\\bSystem\\.(?!arraycopy)"};
 
-    private static final Check CHECK = new Check();
+    private static final Check CHECK = new Check("Face");
 
     public static void main(String[] args) throws IOException {
         face();

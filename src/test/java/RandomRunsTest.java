@@ -2,15 +2,17 @@ import java.util.Random;
 
 /** Runs of random calls, always the same ones, each answer compared with that of NaiveModel. */
 public final class RandomRunsTest {
-    private static final int RUNS = 4000;
-    private static final int CALLS = 40;
+    private static final int RUNS = 8000;
+    /** An object is used for at most 512 calls: behind these enough are left for a step more and a last look. */
+    private static final int CALLS = 400;
     private static final int[] ODD = {Integer.MIN_VALUE, Integer.MIN_VALUE + 10, -1, 101, 1000001, Integer.MAX_VALUE};
 
-    private final Check check = new Check();
+    private final Check check = new Check("Random runs");
     private final Random random = new Random(20261115);
     private BerthPlan x;
     private NaiveModel y;
     private int run;
+    private int calls;
 
     public static void main(String[] args) {
         RandomRunsTest test = new RandomRunsTest();
@@ -24,9 +26,10 @@ public final class RandomRunsTest {
         int places = between(-1, 8);
         x = new BerthPlan(places);
         y = new NaiveModel(places);
+        calls = 0;
         // Runs of one kind have like ships, so that many plans are as late as one another.
         boolean alike = random.nextInt(3) == 0;
-        for (int i = 0; i < CALLS; i++) {
+        while (calls <= CALLS) {
             tell(alike);
             if (random.nextInt(3) == 0) {
                 solveAndLook();
@@ -35,6 +38,7 @@ public final class RandomRunsTest {
             }
         }
         lookAtAll();
+        check.due("run " + run + " keeps to 512 calls", calls <= 512, true);
     }
 
     private int between(int least, int most) {
@@ -51,6 +55,7 @@ public final class RandomRunsTest {
     }
 
     private void same(String call, Check.Call got, Check.Call want) {
+        calls++;
         check.dueText("run " + run + ": " + call, Check.outcome(got), Check.outcome(want));
     }
 
@@ -129,11 +134,21 @@ public final class RandomRunsTest {
 
     private void solveAndLook() {
         same("solve", () -> x.solve(), () -> y.solve());
-        lookAtAll();
+        lookAtPlan();
         int ship = about(0, 3);
         int arrives = about(0, 15);
         same("change", () -> x.change(ship, arrives), () -> y.change(ship, arrives));
-        lookAtAll();
+        lookAtPlan();
+    }
+
+    private void lookAtPlan() {
+        for (int i = 0; i < 4; i++) {
+            int ship = i;
+            same("place of " + ship, () -> x.at(ship, 0), () -> y.at(ship, 0));
+            same("hour of " + ship, () -> x.at(ship, 1), () -> y.at(ship, 1));
+        }
+        same("lateness", () -> x.lateness(), () -> y.lateness());
+        same("plan", () -> x.count(3), () -> y.count(3));
     }
 
     private void lookAtAll() {
