@@ -53,7 +53,9 @@ final class Check {
         try {
             return Long.toString(made.answer());
         } catch (RuntimeException e) {
-            return "throws." + e.getClass().getSimpleName();
+            // A division by zero is the machine's exception: of the class that is due, but not thrown by the program.
+            String by = "/ by zero".equals(e.getMessage()) ? "machine." : "throws.";
+            return by + e.getClass().getSimpleName();
         }
     }
 

@@ -91,24 +91,17 @@ public final class Promise10AtTest {
     }
 
     private static void withoutAPlanRefused() {
-        BerthPlan unsolved = new BerthPlan(1);
-        unsolved.ship(1, 0, 1, 0, 1);
-        BerthPlan changed = new BerthPlan(1);
-        changed.ship(1, 0, 1, 0, 1);
-        changed.tide(0, 0);
-        changed.solve();
-        CHECK.due("change to behind the tide", changed.change(0, 1), -1);
-        BerthPlan[] without = {unsolved, changed, Quays.VOID.made(), Quays.STUCK.made()};
-        for (BerthPlan x : without) {
+        for (Quays quay : Quays.WITHOUT_A_PLAN) {
+            BerthPlan x = quay.made();
             for (int what = 0; what <= 2; what++) {
                 int asked = what;
-                CHECK.dueThrows("at(0, " + what + ") without a plan", Check.STATE, () -> x.at(0, asked));
+                CHECK.dueThrows("at(0, " + what + "), quay " + quay, Check.STATE, () -> x.at(0, asked));
             }
         }
     }
 
     private static void noSuchShipOrWhatIsToldFirst() {
-        for (Quays quay : new Quays[] {Quays.VOID, Quays.STUCK}) {
+        for (Quays quay : Quays.WITHOUT_A_PLAN) {
             BerthPlan x = quay.made();
             dueIndex(x, -1, 0);
             dueIndex(x, 4, 0);

@@ -86,18 +86,10 @@ public final class Promise11LatenessTest {
     }
 
     private static void withoutAPlanRefused() {
-        BerthPlan unsolved = new BerthPlan(1);
-        unsolved.ship(1, 0, 1, 0, 1);
-        BerthPlan changed = new BerthPlan(1);
-        changed.ship(1, 0, 1, 0, 1);
-        changed.tide(0, 0);
-        changed.solve();
-        changed.change(0, 1);
         CHECK.dueThrows("lateness of a new object", Check.STATE, Quays.NEW.made()::lateness);
-        CHECK.dueThrows("lateness ahead of solve", Check.STATE, unsolved::lateness);
-        CHECK.dueThrows("lateness of a void plan", Check.STATE, Quays.VOID.made()::lateness);
-        CHECK.dueThrows("lateness if there is none", Check.STATE, Quays.STUCK.made()::lateness);
-        CHECK.dueThrows("lateness if there is none after a change", Check.STATE, changed::lateness);
+        for (Quays quay : Quays.WITHOUT_A_PLAN) {
+            CHECK.dueThrows("lateness, quay " + quay, Check.STATE, quay.made()::lateness);
+        }
     }
 
     private static void askingChangesNothing() {

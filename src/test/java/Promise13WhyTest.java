@@ -171,7 +171,8 @@ public final class Promise13WhyTest {
                 CHECK.dueThrows("why(" + ship + ") of " + ships + " ships", Check.INDEX, () -> x.why(ship));
             }
             if (ships > 0) {
-                CHECK.due("why of the last of " + ships + " ships", x.why(ships - 1), quay == Quays.STUCK ? 1 : 0);
+                int want = quay == Quays.STUCK ? 1 : quay == Quays.CHANGED ? 4 : 0;
+                CHECK.due("why of the last ship, quay " + quay, x.why(ships - 1), want);
             }
         }
     }

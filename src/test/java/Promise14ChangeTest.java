@@ -217,16 +217,17 @@ public final class Promise14ChangeTest {
     }
 
     private static void withoutAPlanRefused() {
-        BerthPlan unsolved = new BerthPlan(1);
-        unsolved.ship(1, 0, 1, 0, 1);
-        for (BerthPlan x : new BerthPlan[] {unsolved, Quays.VOID.made(), Quays.STUCK.made()}) {
-            CHECK.dueThrows("change(0, 0) without a plan", Check.STATE, () -> x.change(0, 0));
-            CHECK.dueThrows("change(0, 15) without a plan", Check.STATE, () -> x.change(0, 15));
-            CHECK.due("plan after refused calls", x.count(3), 0);
+        for (Quays quay : Quays.WITHOUT_A_PLAN) {
+            BerthPlan x = quay.made();
+            CHECK.dueThrows("change(0, 0), quay " + quay, Check.STATE, () -> x.change(0, 0));
+            CHECK.dueThrows("change(0, 15), quay " + quay, Check.STATE, () -> x.change(0, 15));
+            CHECK.due("plan after refused calls, quay " + quay, x.count(3), 0);
         }
-        unsolved.solve();
-        CHECK.dueBerth("the arrival is as it was", unsolved, 0, 0, 0);
-        dueChange("with a plan", unsolved, 0, 15, 1);
+        BerthPlan x = Quays.UNSOLVED.made();
+        CHECK.dueThrows("change ahead of solve", Check.STATE, () -> x.change(0, 15));
+        x.solve();
+        CHECK.dueBerth("the arrival is as it was", x, 0, 0, 0);
+        dueChange("with a plan", x, 0, 15, 1);
     }
 
     private static void noSuchShipIsToldFirst() {
@@ -239,7 +240,7 @@ public final class Promise14ChangeTest {
     }
 
     private static void noSuchHourIsToldSecond() {
-        for (Quays quay : new Quays[] {Quays.VOID, Quays.STUCK}) {
+        for (Quays quay : Quays.WITHOUT_A_PLAN) {
             BerthPlan x = quay.made();
             dueArgument(x, 0, -1);
             dueArgument(x, 0, 16);
@@ -252,7 +253,7 @@ public final class Promise14ChangeTest {
         for (int[] r : refused) {
             Unchanged.due(CHECK, "change(" + r[0] + ", " + r[1] + ")", x -> x.change(r[0], r[1]), Quays.values());
         }
-        Unchanged.due(CHECK, "change without a plan", x -> x.change(0, 9), Quays.VOID, Quays.STUCK);
+        Unchanged.due(CHECK, "change without a plan", x -> x.change(0, 9), Quays.WITHOUT_A_PLAN);
         Unchanged.due(CHECK, "change without a plan", x -> x.change(2, 0), Quays.VOID, Quays.STUCK);
     }
 }

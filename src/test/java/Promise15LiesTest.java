@@ -119,29 +119,24 @@ public final class Promise15LiesTest {
     }
 
     private static void withoutAPlanRefused() {
-        BerthPlan unsolved = new BerthPlan(1);
-        unsolved.ship(1, 0, 1, 0, 1);
-        BerthPlan changed = new BerthPlan(1);
-        changed.ship(1, 0, 1, 0, 1);
-        changed.tide(0, 0);
-        changed.solve();
-        changed.change(0, 1);
-        BerthPlan[] without = {Quays.NEW.made(), unsolved, changed, Quays.VOID.made(), Quays.STUCK.made()};
-        for (BerthPlan x : without) {
-            CHECK.dueThrows("lies(0, 0) without a plan", Check.STATE, () -> x.lies(0, 0));
-            CHECK.dueThrows("lies(0, 39) without a plan", Check.STATE, () -> x.lies(0, 39));
+        CHECK.dueThrows("lies of a new object", Check.STATE, () -> Quays.NEW.made().lies(0, 0));
+        for (Quays quay : Quays.WITHOUT_A_PLAN) {
+            BerthPlan x = quay.made();
+            CHECK.dueThrows("lies(0, 0), quay " + quay, Check.STATE, () -> x.lies(0, 0));
+            CHECK.dueThrows("lies(0, 39), quay " + quay, Check.STATE, () -> x.lies(0, 39));
         }
-        unsolved.solve();
-        dueLies(unsolved, 0, 0, 0);
+        BerthPlan solved = Quays.UNSOLVED.made();
+        solved.solve();
+        dueLies(solved, 0, 0, 0);
     }
 
     private static void withoutAPlanRefusedForNoSuchPlaceOrHour() {
-        for (Quays quay : new Quays[] {Quays.NEW, Quays.VOID, Quays.STUCK}) {
+        for (Quays quay : Quays.WITHOUT_A_PLAN) {
             BerthPlan x = quay.made();
-            CHECK.dueThrows("lies at no place without a plan", Check.STATE, () -> x.lies(-1, 0));
-            CHECK.dueThrows("lies at no place without a plan", Check.STATE, () -> x.lies(4, 0));
-            CHECK.dueThrows("lies in no hour without a plan", Check.STATE, () -> x.lies(0, -1));
-            CHECK.dueThrows("lies in no hour without a plan", Check.STATE, () -> x.lies(0, 40));
+            CHECK.dueThrows("lies at no place, quay " + quay, Check.STATE, () -> x.lies(-1, 0));
+            CHECK.dueThrows("lies at no place, quay " + quay, Check.STATE, () -> x.lies(4, 0));
+            CHECK.dueThrows("lies in no hour, quay " + quay, Check.STATE, () -> x.lies(0, -1));
+            CHECK.dueThrows("lies in no hour, quay " + quay, Check.STATE, () -> x.lies(0, 40));
         }
     }
 

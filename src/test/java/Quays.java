@@ -18,6 +18,28 @@ enum Quays {
         }
     },
 
+    /** One place and one ship, not solved yet. */
+    UNSOLVED {
+        @Override
+        BerthPlan made() {
+            BerthPlan x = new BerthPlan(1);
+            x.ship(1, 0, 1, 0, 1);
+            return x;
+        }
+    },
+
+    /** One place and one ship that arrives behind the tide since a change: there is no plan now. */
+    CHANGED {
+        @Override
+        BerthPlan made() {
+            BerthPlan x = UNSOLVED.made();
+            x.tide(0, 0);
+            x.solve();
+            x.change(0, 1);
+            return x;
+        }
+    },
+
     /** Four places, three ships of which the last is fixed, two spans of tide, and a plan. */
     PLANNED {
         @Override
@@ -73,6 +95,9 @@ enum Quays {
             return x;
         }
     };
+
+    /** Those with a ship and no plan, each for another reason. */
+    static final Quays[] WITHOUT_A_PLAN = {UNSOLVED, CHANGED, VOID, STUCK};
 
     abstract BerthPlan made();
 

@@ -13,6 +13,7 @@ public final class TermsPlanTest {
         gapJustLongEnough();
         gapBetweenFixedOnes();
         belowZeroForOneThatComesAhead();
+        leastLatenessBesideOneThatComesAhead();
         leastLatenessByOne();
         likeShipsByNumber();
         lesserHourOfTheFirstShip();
@@ -102,6 +103,22 @@ public final class TermsPlanTest {
         x.fix(0, 0, 2);
         x.solve();
         CHECK.due("lateness an hour late", x.lateness(), 1);
+    }
+
+    /** What the fixed one is ahead by is the same in all plans, and more than the others are late. */
+    private static void leastLatenessBesideOneThatComesAhead() {
+        BerthPlan x = new BerthPlan(1);
+        x.ship(1, 0, 4, 0, 1);
+        x.ship(1, 0, 4, 0, 2);
+        x.ship(1, 0, 1, 15, 100);
+        x.fix(2, 0, 8);
+        CHECK.due("solve", x.solve(), 1);
+        CHECK.due("lateness", x.lateness(), 4 - 700);
+        duePlan("the heavier one first", x, 0, 4, 0, 0, 0, 8);
+        x.fix(2, 0, 0);
+        CHECK.due("solve", x.solve(), 1);
+        CHECK.due("lateness", x.lateness(), 2 + 5 - 1500);
+        duePlan("the fixed one ahead of both", x, 0, 5, 0, 1, 0, 0);
     }
 
     /** Either one waits 5 hours: the weight of one more decides, and alike it is the number. */

@@ -27,9 +27,12 @@ public final class TermsVoidTest {
         CHECK.due("no plan of a new object", Quays.NEW.made().count(3), 0);
         CHECK.due("plan without ships", Quays.WITHOUT_SHIPS.made().count(3), 1);
         CHECK.due("plan", Quays.PLANNED.made().count(3), 1);
-        CHECK.due("void plan", Quays.VOID.made().count(3), 0);
         CHECK.due("a plan is there again", Quays.VOID.made().solve(), 1);
-        CHECK.due("no plan", Quays.STUCK.made().count(3), 0);
+        for (Quays quay : Quays.WITHOUT_A_PLAN) {
+            CHECK.due("no plan, quay " + quay, quay.made().count(3), 0);
+        }
+        CHECK.due("there is a plan of it", Quays.UNSOLVED.made().solve(), 1);
+        CHECK.due("there is none since the change", Quays.CHANGED.made().solve(), 0);
         CHECK.due("there is none", Quays.STUCK.made().solve(), 0);
         CHECK.due("plan of the full one", Quays.FULL.made().count(3), 1);
     }
